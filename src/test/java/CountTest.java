@@ -127,22 +127,26 @@ public final class CountTest {
     }
 
     private static void promise36Digest() {
+        digest("busy", busy());
+        GorgeRopes found = busy();
+        found.lose(0);
+        digest("after a finding", found);
+        GorgeRopes noWay = busy();
+        noWay.set(0, 9);
+        noWay.set(1, 3);
+        noWay.set(2, 11);
+        digest("no way", noWay);
+        String[] texts = {"28b930", "28b930;28b930", "09b930;90b930", "09b930;90b930x"};
+        for (String text : texts) {
+            GorgeRopes x = busy();
+            Check.retype(x, 0, text);
+            digest(text, x);
+        }
+        digest("all there is", allThereIs());
+    }
+
+    private static GorgeRopes allThereIs() {
         GorgeRopes x = busy();
-        digest("busy", x);
-        x.lose(0);
-        digest("after a finding", x);
-        x.set(0, 9);
-        x.set(1, 3);
-        x.set(2, 11);
-        digest("no way", x);
-        Check.retype(x, 0, "28b930");
-        digest("one rope", x);
-        Check.retype(x, 0, "28b930;28b930");
-        digest("two that do not cross", x);
-        Check.retype(x, 0, "09b930;90b930");
-        digest("two that cross", x);
-        x.type(0, 'x');
-        digest("a fault", x);
         Check.retype(x, 0, "00b000;19b111;28b222;37b333;46b444;55b550;64b660;73b770");
         Check.retype(x, 1, "76543210");
         x.set(2, 60);
@@ -152,7 +156,7 @@ public final class CountTest {
         for (int t = 0; t < 16; t++) {
             x.trip(t % 8, t % 2, t, t % 10, t % 5);
         }
-        digest("all there is", x);
+        return x;
     }
 
     private static void refusalsChangeNothing() {

@@ -102,12 +102,14 @@ public final class FeesTest {
     }
 
     private static void promise28Knots() {
-        GorgeRopes x = Check.gorge("00b000;00b100;00b900;00b400");
+        String ropes = "00b000;00b100;00b900;00b400";
         for (int n = 0; n <= 9; n++) {
+            GorgeRopes x = Check.gorge(ropes);
             for (int fray = 0; fray <= 99; fray++) {
                 due("28: knots(0, " + n + ", " + fray + ")", x.knots(0, n, fray), n == fray ? 1 : 0);
             }
         }
+        GorgeRopes x = Check.gorge(ropes);
         long[] choose = {1, 9, 36, 84, 126, 126, 84, 36, 9, 1};
         for (int more = 0; more <= 9; more++) {
             due("28: knots(1, 9, " + (9 + more) + ")", x.knots(1, 9, 9 + more), choose[more]);

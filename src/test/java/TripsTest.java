@@ -159,28 +159,35 @@ public final class TripsTest {
     private static void promise13ClashAtACrossing() {
         // They cross a third from the left. Rope 0 takes 12 down, rope 1 takes 18 up from the left:
         // at the crossing after 4 and 6; from the right after 16 (of 24) and 8 (of 12).
-        GorgeRopes x = Check.gorge("60b900;36c900", "1");
+        GorgeRopes x = crossingAtAThird();
         due("13: place above", x.crossing(0, 1, 0, 0), 1);
         due("13: place below", x.crossing(0, 1, 0, 1), 3);
-        int[][] after = {{4, 16}, {6, 8}};
         for (int sides = 0; sides < 4; sides++) {
-            int sideA = sides / 2;
-            int sideB = sides % 2;
             for (int gap = 1; gap <= 9; gap++) {
-                x.set(0, gap);
-                for (int apart = -10; apart <= 10; apart++) {
-                    x.trip(0, sideA, 50 - after[0][sideA], 0, 0);
-                    x.trip(1, sideB, 50 + apart - after[1][sideB], 0, 0);
-                    boolean clash = Math.abs(apart) < gap;
-                    String of = "13: sides " + sides + ", gap " + gap + ", apart " + apart + ": clash";
-                    due(of + "(0, 1, 0)", x.clash(0, 1, 0), clash ? 1 : 0);
-                    due(of + "(1, 0, 1), rope 1 has more right", x.clash(1, 0, 1), clash ? 0 : -1);
-                    x.undo();
-                    x.undo();
-                }
+                clashesWithin(gap, sides / 2, sides % 2);
             }
         }
         fractionsAreNotRounded();
+    }
+
+    private static GorgeRopes crossingAtAThird() {
+        return Check.gorge("60b900;36c900", "1");
+    }
+
+    private static void clashesWithin(int gap, int sideA, int sideB) {
+        int[][] after = {{4, 16}, {6, 8}};
+        GorgeRopes x = crossingAtAThird();
+        x.set(0, gap);
+        for (int apart = -10; apart <= 10; apart++) {
+            x.trip(0, sideA, 50 - after[0][sideA], 0, 0);
+            x.trip(1, sideB, 50 + apart - after[1][sideB], 0, 0);
+            boolean clash = Math.abs(apart) < gap;
+            String of = "13: sides " + sideA + " " + sideB + ", gap " + gap + ", apart " + apart + ": clash";
+            due(of + "(0, 1, 0)", x.clash(0, 1, 0), clash ? 1 : 0);
+            due(of + "(1, 0, 1), rope 1 has more right", x.clash(1, 0, 1), clash ? 0 : -1);
+            x.undo();
+            x.undo();
+        }
     }
 
     private static void fractionsAreNotRounded() {
