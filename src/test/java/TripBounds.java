@@ -106,6 +106,10 @@ final class TripBounds {
         Check.type(x, 0, RopeBounds.ropes(8).replace("000", "010"));
         counting("eight ropes again", x, 4, 2, 15, 40, 0);
         said.due("count(3), they are still there", x.count(3), 4);
+        for (int begin = 0; begin < 40; begin++) {
+            anOldCrossingIsGone(begin, begin % 2);
+            anOldCrossingIsGone(begin, 1 - begin % 2);
+        }
         said.promise(15, "PUT OFF: when a TRIP begins; NONE: it does not count.");
         oldRopesAreGone();
         Check.retype(x, 0, "00b000");
@@ -113,6 +117,24 @@ final class TripBounds {
             said.due("putOff(" + t + ")", x.putOff(t), NONE);
         }
         said.due("putOff(4), no such trip", x.putOff(4), BAD);
+    }
+
+    /** A trip over a rope that is there no more is in nobody's way, though the rope crossed the other's. */
+    private void anOldCrossingIsGone(int begin, int side) {
+        for (int old = 0; old < 2; old++) {
+            GorgeRopes x = Check.gorge("09b910;90b910");
+            for (int t = 0; t < 2; t++) {
+                x.trip(t == old ? 1 : 0, t == old ? 1 : side, t == old ? 0 : begin, 0, 0);
+            }
+            Check.retype(x, 0, "09b910");
+            String of = "trip " + old + " over an old rope, the other at " + begin + ": ";
+            said.due(of + "clash(0, 1, 0)", x.clash(0, 1, 0), 0);
+            said.due(of + "clash(1, 0, 0)", x.clash(1, 0, 0), 0);
+            said.due(of + "clash(0, 1, 1)", x.clash(0, 1, 1), NONE);
+            said.due(of + "clashes()", x.clashes(), 0);
+            said.due(of + "wind(1)", x.wind(1), 0);
+            said.due(of + "putOff() of the other", x.putOff(1 - old), begin);
+        }
     }
 
     /** A trip over each of eight ropes, of which fewer and fewer are left. */
